@@ -49,7 +49,8 @@ public final class Routetable {
 
   // ---- what is changed
 
-  public int offer(int router, int address, int length, int owner, int way, int cost) {
+  public int offer(int router, int address, int length, int owner, int way, int cost)
+      throws IndexOutOfBoundsException, IllegalArgumentException, IllegalStateException {
     Router place = net.at(router);
     checkOwner(owner);
     checkArgument(isLength(length) && isWayOrNone(way) && cost >= 0 && cost <= MOST_COST);
@@ -66,7 +67,8 @@ public final class Routetable {
     return entry.offerCount();
   }
 
-  public boolean withdraw(int router, int address, int length, int owner) {
+  public boolean withdraw(int router, int address, int length, int owner)
+      throws IndexOutOfBoundsException, IllegalArgumentException {
     Router place = net.at(router);
     checkOwner(owner);
     checkArgument(isLength(length));
@@ -79,7 +81,7 @@ public final class Routetable {
     return true;
   }
 
-  public int leave(int router, int owner) {
+  public int leave(int router, int owner) throws IndexOutOfBoundsException {
     Router place = net.at(router);
     checkOwner(owner);
     return place.takeAllBack(owner);
@@ -93,7 +95,7 @@ public final class Routetable {
     return penalties;
   }
 
-  public int link(int router, int way, int to) {
+  public int link(int router, int way, int to) throws IndexOutOfBoundsException, IllegalArgumentException {
     Router place = net.at(router);
     checkArgument(isWay(way) && to >= NOWHERE && to <= OUT);
     int before = place.linkBy(way);
@@ -101,7 +103,7 @@ public final class Routetable {
     return before;
   }
 
-  public int send(int router, int address, int life) {
+  public int send(int router, int address, int life) throws IndexOutOfBoundsException, IllegalArgumentException {
     net.at(router);
     checkArgument(life >= 1 && life <= MOST_LIFE);
     long number = numberOf(address);
@@ -120,14 +122,14 @@ public final class Routetable {
     return REFUSED;
   }
 
-  public int shrink(int router) {
+  public int shrink(int router) throws IndexOutOfBoundsException {
     Router place = net.at(router);
     maker.make(place.ranges, leastWays);
     place.become(leastWays);
     return place.tally(0);
   }
 
-  public int clear(int router) {
+  public int clear(int router) throws IndexOutOfBoundsException {
     Router place = net.at(router);
     int gone = place.tally(0);
     place.forgetAll();
@@ -141,16 +143,16 @@ public final class Routetable {
 
   // ---- what is asked of ways
 
-  public int way(int router, int address) {
+  public int way(int router, int address) throws IndexOutOfBoundsException {
     return net.at(router).live.wayAt(numberOf(address));
   }
 
-  public int length(int router, int address) {
+  public int length(int router, int address) throws IndexOutOfBoundsException {
     Ways live = net.at(router).live;
     return live.bitsOf(live.bestAt(numberOf(address), NONE));
   }
 
-  public String best(int router, int address) {
+  public String best(int router, int address) throws IndexOutOfBoundsException {
     Ways live = net.at(router).live;
     int found = live.bestAt(numberOf(address), NONE);
     if (found == NONE) {
@@ -161,7 +163,8 @@ public final class Routetable {
     return signs.toString();
   }
 
-  public int without(int router, int address, int length, int asked) {
+  public int without(int router, int address, int length, int asked)
+      throws IndexOutOfBoundsException, IllegalArgumentException {
     Ways live = net.at(router).live;
     checkArgument(isLength(length));
     int left = live.placeOf(firstIn(address, length), length);
@@ -176,14 +179,15 @@ public final class Routetable {
 
   // ---- what is asked of tables
 
-  public int offers(int router, int address, int length) {
+  public int offers(int router, int address, int length) throws IndexOutOfBoundsException, IllegalArgumentException {
     Router place = net.at(router);
     checkArgument(isLength(length));
     Entry entry = place.known(firstIn(address, length), length);
     return entry == null ? 0 : entry.offerCount();
   }
 
-  public int ofOffer(int router, int address, int length, int owner, int what) {
+  public int ofOffer(int router, int address, int length, int owner, int what)
+      throws IndexOutOfBoundsException, IllegalArgumentException {
     Router place = net.at(router);
     checkOwner(owner);
     checkArgument(isLength(length) && what >= 0 && what <= 2);
@@ -201,21 +205,22 @@ public final class Routetable {
     }
   }
 
-  public int chosen(int router, int address, int length) {
+  public int chosen(int router, int address, int length) throws IndexOutOfBoundsException, IllegalArgumentException {
     Router place = net.at(router);
     checkArgument(isLength(length));
     Entry entry = place.known(firstIn(address, length), length);
     return entry == null ? NONE : entry.chosenOwner();
   }
 
-  public int hits(int router, int address, int length) {
+  public int hits(int router, int address, int length) throws IndexOutOfBoundsException, IllegalArgumentException {
     Router place = net.at(router);
     checkArgument(isLength(length));
     Entry entry = place.known(firstIn(address, length), length);
     return entry == null || !entry.isOffered() ? REFUSED : entry.hitCount();
   }
 
-  public int penalty(int router, int address, int length, int owner) {
+  public int penalty(int router, int address, int length, int owner)
+      throws IndexOutOfBoundsException, IllegalArgumentException {
     Router place = net.at(router);
     checkOwner(owner);
     checkArgument(isLength(length));
@@ -223,13 +228,14 @@ public final class Routetable {
     return entry == null ? 0 : entry.penaltyBy(owner);
   }
 
-  public int table(int router, int what) {
+  public int table(int router, int what) throws IndexOutOfBoundsException, IllegalArgumentException {
     Router place = net.at(router);
     checkArgument(what >= 0 && what <= 5);
     return place.tally(what);
   }
 
-  public int lengthFrom(int router, int from, boolean isDown) {
+  public int lengthFrom(int router, int from, boolean isDown)
+      throws IndexOutOfBoundsException, IllegalArgumentException {
     Router place = net.at(router);
     checkArgument(from <= BITS);
     if (from < NONE || from == NONE && !isDown) {
@@ -238,18 +244,18 @@ public final class Routetable {
     return isDown ? place.live.bitsDownFrom(from) : place.live.bitsUpFrom(from);
   }
 
-  public String text(int router) {
+  public String text(int router) throws IndexOutOfBoundsException {
     writeTable(net.at(router).live);
     return signs.toString();
   }
 
   // ---- what is asked of ranges
 
-  public int ranges(int router) {
+  public int ranges(int router) throws IndexOutOfBoundsException {
     return net.at(router).ranges.count();
   }
 
-  public long range(int router, int number, int what) {
+  public long range(int router, int number, int what) throws IndexOutOfBoundsException, IllegalArgumentException {
     Ranges ranges = net.at(router).ranges;
     checkIndex(number >= 0 && number < ranges.count());
     checkArgument(what >= 0 && what <= 3);
@@ -265,12 +271,12 @@ public final class Routetable {
     }
   }
 
-  public String rangesText(int router) {
+  public String rangesText(int router) throws IndexOutOfBoundsException {
     writeRanges(net.at(router).ranges);
     return signs.toString();
   }
 
-  public int window(int router, int from, int to) {
+  public int window(int router, int from, int to) throws IndexOutOfBoundsException {
     Ranges ranges = net.at(router).ranges;
     long low = numberOf(from);
     long high = numberOf(to);
@@ -286,7 +292,8 @@ public final class Routetable {
     return inside;
   }
 
-  public long edge(int router, int from, int to, boolean isLast) {
+  public long edge(int router, int from, int to, boolean isLast)
+      throws IndexOutOfBoundsException, IllegalArgumentException {
     Ranges ranges = net.at(router).ranges;
     long low = numberOf(from);
     long high = numberOf(to);
@@ -301,7 +308,7 @@ public final class Routetable {
     return found;
   }
 
-  public long share(int router, int way) {
+  public long share(int router, int way) throws IndexOutOfBoundsException, IllegalArgumentException {
     Ranges ranges = net.at(router).ranges;
     checkArgument(isWayOrNone(way));
     long addresses = 0;
@@ -315,70 +322,70 @@ public final class Routetable {
 
   // ---- what is asked of least tables and of two tables
 
-  public int leastSize(int router) {
+  public int leastSize(int router) throws IndexOutOfBoundsException {
     maker.make(net.at(router).ranges, leastWays);
     return leastWays.count();
   }
 
-  public String least(int router) {
+  public String least(int router) throws IndexOutOfBoundsException {
     maker.make(net.at(router).ranges, leastWays);
     writeTable(leastWays);
     return signs.toString();
   }
 
-  public boolean alike(int router, int other) {
+  public boolean alike(int router, int other) throws IndexOutOfBoundsException {
     Ranges one = net.at(router).ranges;
     return one.isSameAs(net.at(other).ranges);
   }
 
-  public long parting(int router, int other) {
+  public long parting(int router, int other) throws IndexOutOfBoundsException {
     Ranges one = net.at(router).ranges;
     return one.firstUnlike(net.at(other).ranges);
   }
 
-  public long differ(int router, int other) {
+  public long differ(int router, int other) throws IndexOutOfBoundsException {
     Ranges one = net.at(router).ranges;
     return one.countUnlike(net.at(other).ranges);
   }
 
   // ---- what is asked of the net
 
-  public int linkOf(int router, int way) {
+  public int linkOf(int router, int way) throws IndexOutOfBoundsException, IllegalArgumentException {
     Router place = net.at(router);
     checkArgument(isWay(way));
     return place.linkBy(way);
   }
 
-  public String trace(int router, int address) {
+  public String trace(int router, int address) throws IndexOutOfBoundsException {
     writeTrail(net.follow(router, numberOf(address)));
     return signs.toString();
   }
 
-  public int fate(int router, int address) {
+  public int fate(int router, int address) throws IndexOutOfBoundsException {
     return net.follow(router, numberOf(address));
   }
 
-  public long reach(int router, int fate) {
+  public long reach(int router, int fate) throws IndexOutOfBoundsException, IllegalArgumentException {
     net.at(router);
     checkArgument(isFate(fate));
     net.weighFates(router);
     return net.addressesOf(fate);
   }
 
-  public long firstOf(int router, int fate) {
+  public long firstOf(int router, int fate) throws IndexOutOfBoundsException, IllegalArgumentException {
     net.at(router);
     checkArgument(isFate(fate));
     net.weighFates(router);
     return net.firstNumberOf(fate);
   }
 
-  public String recent(int place) {
+  public String recent(int place) throws IllegalArgumentException {
     checkArgument(place >= 0 && place < MOST_RECENT);
     writeRecent(place);
     return signs.toString();
   }
 
-  public int books(int what) {
+  public int books(int what) throws IllegalArgumentException {
     checkArgument(what >= 0 && what <= 2);
     switch (what) {
       case 0:
