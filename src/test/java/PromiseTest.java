@@ -110,6 +110,17 @@ public final class PromiseTest {
     }
   }
 
+  /** "w" offers and withdraws once at the router 0, "m" is a minute. */
+  private static void play(Routetable x, String steps) {
+    for (char step : steps.toCharArray()) {
+      if (step == 'w') {
+        flap(x, 0, ip(10, 0, 0, 0), 8, 1, 1);
+      } else {
+        x.minute();
+      }
+    }
+  }
+
   // ---- the promises
 
   private static void aNewObject() {
@@ -266,6 +277,16 @@ public final class PromiseTest {
     }
     due("an offer outlives its penalty", x.way(1, 0), 3);
     due("no penalty", x.table(1, 5), 0);
+
+    Routetable y = new Routetable();
+    play(y, "wmwmwmmmwmwmmm");
+    due("an odd one", y.penalty(0, ip(10, 0, 0, 0), 8, 1), 201);
+    due("100 is not below 100", y.minute(), 1);
+    due("half, towards 0", y.penalty(0, ip(10, 0, 0, 0), 8, 1), 100);
+    Routetable z = new Routetable();
+    play(z, "wmwmmmwmwmmm");
+    due("one below", z.penalty(0, ip(10, 0, 0, 0), 8, 1), 199);
+    due("99 is below 100", z.minute(), 0);
   }
 
   private static void link() {
@@ -589,6 +610,11 @@ public final class PromiseTest {
     due("1500", x.penalty(0, ip(10, 0, 0, 0), 8, 1), 1500);
     x.offer(0, ip(10, 0, 0, 0), 8, 1, 0, 0);
     due("1500 damps", x.ofOffer(0, ip(10, 0, 0, 0), 8, 1, 2), 1);
+    Routetable y = new Routetable();
+    play(y, "wmwmwmwmwmwmwmwmwmmw");
+    due("1499", y.penalty(0, ip(10, 0, 0, 0), 8, 1), 1499);
+    y.offer(0, ip(10, 0, 0, 0), 8, 1, 0, 0);
+    due("1499 does not damp", y.ofOffer(0, ip(10, 0, 0, 0), 8, 1, 2), 0);
     index(x, "router 4", () -> x.penalty(4, 0, 33, 0));
     index(x, "router -1", () -> x.penalty(-1, 0, 0, 0));
     index(x, "owner 4", () -> x.penalty(0, 0, 33, 4));
