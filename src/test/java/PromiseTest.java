@@ -1,17 +1,5 @@
-import java.util.concurrent.Callable;
-
 /** Promise by promise: ordinary calls, the edges that the document names, and wrong inputs. */
-public final class PromiseTest {
-  private static final int NONE = -1;
-  private static final int REFUSED = -9;
-  private static final int LOWEST = Integer.MIN_VALUE;
-  private static final int HIGHEST = Integer.MAX_VALUE;
-  private static final long ALL = 1L << 32;
-
-  private static int checks = 0;
-  private static int wrong = 0;
-  private static String promise = "";
-
+public final class PromiseTest extends Checks {
   public static void main(String[] args) {
     aNewObject();
     offer();
@@ -48,83 +36,13 @@ public final class PromiseTest {
     recentAndBooks();
     isSound();
     digest();
-    System.out.println(checks + " checks, " + wrong + " wrong");
-    if (wrong > 0) {
-      System.exit(1);
-    }
-  }
-
-  // ---- the harness
-
-  private static void due(String call, Object got, Object want) {
-    checks++;
-    if (!want.equals(got)) {
-      wrong++;
-      System.out.println(promise + ": " + call + " answered " + got + ", due is " + want);
-    }
-  }
-
-  private static void index(Routetable x, String call, Callable<?> made) {
-    refuses(x, call, made, "IndexOutOfBoundsException");
-  }
-
-  private static void argument(Routetable x, String call, Callable<?> made) {
-    refuses(x, call, made, "IllegalArgumentException");
-  }
-
-  private static void state(Routetable x, String call, Callable<?> made) {
-    refuses(x, call, made, "IllegalStateException");
-  }
-
-  /** A call that throws changes nothing, so the checksum stays. */
-  private static void refuses(Routetable x, String call, Callable<?> made, String want) {
-    long before = x.digest();
-    String got = "nothing";
-    try {
-      made.call();
-    } catch (Exception e) {
-      got = e.getClass().getSimpleName();
-    }
-    due(call + " throws", got, want);
-    due("digest() after " + call, x.digest(), before);
-  }
-
-  private static int ip(int a, int b, int c, int d) {
-    return a << 24 | b << 16 | c << 8 | d;
-  }
-
-  /** A table with three ways, a hole, and a prefix in a prefix in a prefix, at the router 0. */
-  private static Routetable sample() {
-    Routetable x = new Routetable();
-    x.offer(0, 0, 0, 0, 1, 5);
-    x.offer(0, ip(10, 0, 0, 0), 8, 0, 3, 4);
-    x.offer(0, ip(10, 64, 0, 0), 10, 0, 2, 0);
-    x.offer(0, ip(10, 64, 0, 0), 32, 0, NONE, 0);
-    return x;
-  }
-
-  private static void flap(Routetable x, int router, int address, int length, int owner, int times) {
-    for (int i = 0; i < times; i++) {
-      x.offer(router, address, length, owner, 0, 0);
-      x.withdraw(router, address, length, owner);
-    }
-  }
-
-  /** "w" offers and withdraws once at the router 0, "m" is a minute. */
-  private static void play(Routetable x, String steps) {
-    for (char step : steps.toCharArray()) {
-      if (step == 'w') {
-        flap(x, 0, ip(10, 0, 0, 0), 8, 1, 1);
-      } else {
-        x.minute();
-      }
-    }
+    end();
   }
 
   // ---- the promises
 
   private static void aNewObject() {
-    promise = "Promise 1";
+    about("Promise 1");
     Routetable x = new Routetable();
     for (int router = 0; router < 4; router++) {
       for (int what = 0; what <= 5; what++) {
@@ -148,7 +66,7 @@ public final class PromiseTest {
   }
 
   private static void offer() {
-    promise = "Promise 2";
+    about("Promise 2");
     Routetable x = new Routetable();
     due("first", x.offer(1, ip(10, 1, 2, 3), 8, 3, 2, 7), 1);
     due("in the same prefix", x.offer(1, ip(10, 255, 0, 9), 8, 0, NONE, 99), 2);
@@ -170,7 +88,7 @@ public final class PromiseTest {
   }
 
   private static void offerRefuses() {
-    promise = "Promise 2, refusals";
+    about("Promise 2, refusals");
     Routetable x = sample();
     index(x, "router -1", () -> x.offer(-1, 0, 0, 0, 0, 0));
     index(x, "router 4", () -> x.offer(4, 0, 0, 0, 0, 0));
@@ -200,7 +118,7 @@ public final class PromiseTest {
   }
 
   private static void withdraw() {
-    promise = "Promise 3";
+    about("Promise 3");
     Routetable x = sample();
     due("none of this owner", x.withdraw(0, 0, 0, 1), false);
     due("none of this length", x.withdraw(0, 0, 1, 0), false);
@@ -229,7 +147,7 @@ public final class PromiseTest {
   }
 
   private static void leave() {
-    promise = "Promise 4";
+    about("Promise 4");
     Routetable x = sample();
     x.offer(0, 0, 0, 1, 4, 50);
     x.offer(1, 0, 0, 0, 4, 50);
@@ -247,7 +165,7 @@ public final class PromiseTest {
   }
 
   private static void minute() {
-    promise = "Promise 5";
+    about("Promise 5");
     Routetable x = new Routetable();
     due("without any", x.minute(), 0);
     flap(x, 0, 0, 8, 0, 1);
@@ -290,7 +208,7 @@ public final class PromiseTest {
   }
 
   private static void link() {
-    promise = "Promise 6";
+    about("Promise 6");
     Routetable x = new Routetable();
     due("at first", x.link(2, 5, 4), -1);
     due("before", x.link(2, 5, 0), 4);
@@ -307,21 +225,8 @@ public final class PromiseTest {
     argument(x, "to -2", () -> x.link(0, 0, -2));
   }
 
-  /** 0 goes by 0 to 1, 1 by 1 to 2, 2 by 2 to 3, 3 by 3 out; 10/8 goes round at 3, 20/8 has a hole at 2. */
-  private static Routetable chain() {
-    Routetable x = new Routetable();
-    for (int router = 0; router < 4; router++) {
-      x.offer(router, 0, 0, 0, router, 0);
-      x.link(router, router, router + 1);
-    }
-    x.offer(3, ip(10, 0, 0, 0), 8, 0, 5, 0);
-    x.link(3, 5, 1);
-    x.offer(2, ip(20, 0, 0, 0), 8, 0, NONE, 0);
-    return x;
-  }
-
   private static void send() {
-    promise = "Promise 7";
+    about("Promise 7");
     Routetable x = chain();
     due("four hops", x.send(0, 0, 9), 4);
     due("just enough", x.send(0, 0, 4), 4);
@@ -345,7 +250,7 @@ public final class PromiseTest {
   }
 
   private static void sendCountsAndRemembers() {
-    promise = "Promise 7, hits and recent";
+    about("Promise 7, hits and recent");
     Routetable x = chain();
     x.send(0, ip(10, 1, 1, 1), 9);
     due("0 once", x.hits(0, 0, 0), 1);
@@ -370,7 +275,7 @@ public final class PromiseTest {
   }
 
   private static void shrink() {
-    promise = "Promise 8";
+    about("Promise 8");
     Routetable x = sample();
     x.offer(0, ip(10, 64, 0, 0), 10, 1, 2, 0);
     x.offer(0, ip(20, 0, 0, 0), 8, 1, 1, 0);
@@ -406,7 +311,7 @@ public final class PromiseTest {
   }
 
   private static void clear() {
-    promise = "Promise 9";
+    about("Promise 9");
     Routetable x = sample();
     x.link(0, 1, 4);
     x.send(0, ip(99, 0, 0, 0), 1);
@@ -429,7 +334,7 @@ public final class PromiseTest {
   }
 
   private static void knock() {
-    promise = "Promise 10";
+    about("Promise 10");
     Routetable x = new Routetable();
     due("one", x.knock(), 1);
     due("two", x.knock(), 2);
@@ -437,7 +342,7 @@ public final class PromiseTest {
   }
 
   private static void wayLengthBest() {
-    promise = "Promises 11 to 13";
+    about("Promises 11 to 13");
     Routetable x = sample();
     int[] addresses = {0, ip(9, 255, 255, 255), ip(10, 0, 0, 0), ip(10, 63, 255, 255), ip(10, 64, 0, 0),
         ip(10, 64, 0, 1), ip(10, 127, 255, 255), ip(10, 128, 0, 0), ip(10, 255, 255, 255), ip(11, 0, 0, 0), -1};
@@ -466,7 +371,7 @@ public final class PromiseTest {
   }
 
   private static void without() {
-    promise = "Promise 14";
+    about("Promise 14");
     Routetable x = sample();
     due("the next longest", x.without(0, ip(10, 64, 0, 0), 32, ip(10, 64, 0, 0)), 2);
     due("told by another address", x.without(0, ip(10, 99, 0, 0), 10, ip(10, 64, 0, 1)), 3);
@@ -482,7 +387,7 @@ public final class PromiseTest {
   }
 
   private static void dotted() {
-    promise = "Promise 15";
+    about("Promise 15");
     Routetable x = new Routetable();
     due("0", x.dotted(0), "0.0.0.0");
     due("-1", x.dotted(-1), "255.255.255.255");
@@ -493,7 +398,7 @@ public final class PromiseTest {
   }
 
   private static void offersAndOfOffer() {
-    promise = "Promises 16 and 17";
+    about("Promises 16 and 17");
     Routetable x = sample();
     x.offer(0, ip(10, 0, 0, 0), 8, 3, NONE, 99);
     due("offers", x.offers(0, ip(10, 9, 9, 9), 8), 2);
@@ -530,7 +435,7 @@ public final class PromiseTest {
   }
 
   private static void chosen() {
-    promise = "Promise 18";
+    about("Promise 18");
     Routetable x = new Routetable();
     due("not in the table", x.chosen(0, 0, 0), NONE);
     x.offer(0, 0, 0, 3, 1, 5);
@@ -559,7 +464,7 @@ public final class PromiseTest {
   }
 
   private static void hits() {
-    promise = "Promise 19";
+    about("Promise 19");
     Routetable x = sample();
     due("none so far", x.hits(0, 0, 0), 0);
     due("not in the table", x.hits(0, 0, 1), REFUSED);
@@ -588,7 +493,7 @@ public final class PromiseTest {
   }
 
   private static void penalty() {
-    promise = "Promise 20";
+    about("Promise 20");
     Routetable x = new Routetable();
     due("at first", x.penalty(0, 0, 0, 0), 0);
     int[] wants = {1000, 2000, 3000, 4000, 4000};
@@ -624,7 +529,7 @@ public final class PromiseTest {
   }
 
   private static void table() {
-    promise = "Promise 21";
+    about("Promise 21");
     Routetable x = sample();
     x.offer(0, ip(20, 0, 0, 0), 8, 2, 0, 0);
     x.offer(0, 0, 0, 3, 0, 0);
@@ -649,7 +554,7 @@ public final class PromiseTest {
   }
 
   private static void lengthFrom() {
-    promise = "Promise 22";
+    about("Promise 22");
     Routetable x = sample();
     x.withdraw(0, 0, 0, 0);
     due("down", x.lengthFrom(0, 32, true), 32);
@@ -684,7 +589,7 @@ public final class PromiseTest {
   }
 
   private static void text() {
-    promise = "Promise 23";
+    about("Promise 23");
     Routetable x = new Routetable();
     due("empty", x.text(2), "");
     x.offer(2, -1, 32, 0, 5, 0);
@@ -703,7 +608,7 @@ public final class PromiseTest {
   }
 
   private static void ranges() {
-    promise = "Promise 24";
+    about("Promise 24");
     Routetable x = sample();
     due("at first", x.ranges(1), 1);
     due("of the sample", x.ranges(0), 6);
@@ -724,7 +629,7 @@ public final class PromiseTest {
   }
 
   private static void range() {
-    promise = "Promise 25";
+    about("Promise 25");
     Routetable x = sample();
     due("begin", x.range(0, 1, 0), 167772160L);
     due("end", x.range(0, 1, 1), 171966463L);
@@ -745,7 +650,7 @@ public final class PromiseTest {
   }
 
   private static void rangesText() {
-    promise = "Promise 26";
+    about("Promise 26");
     Routetable x = sample();
     due("at first", x.rangesText(1), "0.0.0.0>-1");
     due("of the sample", x.rangesText(0),
@@ -755,7 +660,7 @@ public final class PromiseTest {
   }
 
   private static void windowAndEdge() {
-    promise = "Promises 27 and 28";
+    about("Promises 27 and 28");
     Routetable x = sample();
     due("all", x.window(0, 0, -1), 6);
     due("both count", x.window(0, ip(10, 0, 0, 0), ip(10, 64, 0, 0)), 2);
@@ -785,7 +690,7 @@ public final class PromiseTest {
   }
 
   private static void share() {
-    promise = "Promise 29";
+    about("Promise 29");
     Routetable x = sample();
     due("way 2", x.share(0, 2), 4194303L);
     due("way 3", x.share(0, 3), 12582912L);
@@ -800,7 +705,7 @@ public final class PromiseTest {
   }
 
   private static void leastTables() {
-    promise = "Promises 30 and 31";
+    about("Promises 30 and 31");
     Routetable x = new Routetable();
     due("empty", x.least(0), "");
     due("empty", x.leastSize(0), 0);
@@ -833,7 +738,7 @@ public final class PromiseTest {
   }
 
   private static void alikePartingDiffer() {
-    promise = "Promises 32 to 34";
+    about("Promises 32 to 34");
     Routetable x = sample();
     due("itself", x.alike(0, 0), true);
     due("itself", x.parting(0, 0), -1L);
@@ -866,7 +771,7 @@ public final class PromiseTest {
   }
 
   private static void linkOf() {
-    promise = "Promise 35";
+    about("Promise 35");
     Routetable x = new Routetable();
     for (int to = -1; to <= 4; to++) {
       x.link(3, 2, to);
@@ -879,7 +784,7 @@ public final class PromiseTest {
   }
 
   private static void traceAndFate() {
-    promise = "Promises 36 and 37";
+    about("Promises 36 and 37");
     Routetable x = chain();
     due("out", x.trace(0, 0), "0>1>2>3>out");
     due("out", x.fate(0, 0), 0);
@@ -904,7 +809,7 @@ public final class PromiseTest {
   }
 
   private static void reachAndFirstOf() {
-    promise = "Promises 38 and 39";
+    about("Promises 38 and 39");
     Routetable x = chain();
     due("arrive", x.reach(0, 0), ALL - (2L << 24));
     due("die", x.reach(0, 1), 1L << 24);
@@ -934,7 +839,7 @@ public final class PromiseTest {
   }
 
   private static void recentAndBooks() {
-    promise = "Promises 40 and 41";
+    about("Promises 40 and 41");
     Routetable x = new Routetable();
     due("none", x.recent(0), "none");
     due("none", x.recent(7), "none");
@@ -961,7 +866,7 @@ public final class PromiseTest {
   }
 
   private static void isSound() {
-    promise = "Promise 42";
+    about("Promise 42");
     due("at first", new Routetable().isSound(), true);
     due("the sample", sample().isSound(), true);
     due("the chain", chain().isSound(), true);
@@ -1024,7 +929,7 @@ public final class PromiseTest {
   }
 
   private static void digest() {
-    promise = "Promise 43";
+    about("Promise 43");
     Routetable x = new Routetable();
     due("at first", x.digest(), -3639223973737891856L);
     Routetable y = chain();
