@@ -179,7 +179,8 @@ public final class LeastTablesTest extends Checks {
   }
 
   private static void least() {
-    says("Returns PREFIX by PREFIX of the LEAST TABLE, in their order, its text, \">\" and its WAY");
+    says("Returns PREFIX by PREFIX of the LEAST TABLE, in their order, its text, \">\" and its WAY, with a blank between two "
+        + "(\"\" without any).");
     Routetable x = new Routetable();
     due("without any", x.least(0), "");
     x.offer(0, -1, 8, 0, 2, 0);

@@ -200,7 +200,9 @@ public final class NetTest extends Checks {
   }
 
   private static void traceTexts() {
-    says("(\"0>2>out\", \"0>1>dead\", \"0>1>2>1\").");
+    says("Returns the ROUTERS of the TRACE with \">\" behind each, the first being the one told; then \"out\", if the "
+        + "message ARRIVES, \"dead\", if it DIES, or, if it GOES ROUND, the ROUTER to which it comes the second time "
+        + "(\"0>2>out\", \"0>1>dead\", \"0>1>2>1\").");
     Routetable x = new Routetable();
     for (int router = 0; router < 3; router++) {
       x.offer(router, 0, 0, 0, 0, 0);
@@ -237,6 +239,9 @@ public final class NetTest extends Checks {
     for (int fate = 0; fate <= 2; fate++) {
       due("of fate " + fate, x.reach(0, fate), wants[fate]);
       due("of fate " + fate + ", empty", new Routetable().reach(3, fate), fate == 1 ? ALL : 0L);
+    }
+    for (int router = 0; router < 4; router++) {
+      due("all fates", x.reach(router, 0) + x.reach(router, 1) + x.reach(router, 2), 4294967296L);
     }
     x.link(0, 0, 0);
     due("all go round", x.reach(0, 2), 4294967296L);

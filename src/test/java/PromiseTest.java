@@ -1,3 +1,7 @@
+import java.math.BigInteger;
+import java.util.ArrayList;
+import java.util.List;
+
 /** Promise by promise: ordinary calls, the edges that the document names, and wrong inputs. */
 public final class PromiseTest extends Checks {
   public static void main(String[] args) {
@@ -35,6 +39,7 @@ public final class PromiseTest extends Checks {
     reachAndFirstOf();
     recentAndBooks();
     isSound();
+    digestWrapsAround();
     digest();
     end();
   }
@@ -928,6 +933,25 @@ public final class PromiseTest extends Checks {
     return d * 31 + (x.isSound() ? 1 : 0);
   }
 
+  /** A new object's values are few, so they stand here, and numbers without bounds take them. */
+  private static void digestWrapsAround() {
+    says("which wraps around as a 64-bit integer");
+    List<Long> values = new ArrayList<>();
+    for (int router = 0; router < 4; router++) {
+      values.addAll(List.of(0L, 0L, 0L, 0L, 0L, 0L, 1L, 0L, -1L, ALL, ALL, 0L, 0L, 0L, 0L, 0L, 0L));
+      values.addAll(List.of(0L, 0L, 10L, 0L, -1L, -1L, -1L, -1L, -1L, -1L, 0L, ALL, 0L, -1L, 0L, -1L, -1L, -1L));
+    }
+    for (int pair = 0; pair < 6; pair++) {
+      values.addAll(List.of(0L, -1L));
+    }
+    values.addAll(List.of(4L, 4L, 4L, 4L, 4L, 4L, 4L, 4L, 0L, 0L, 0L, 1L));
+    BigInteger d = BigInteger.valueOf(5301);
+    for (long value : values) {
+      d = d.multiply(BigInteger.valueOf(31)).add(BigInteger.valueOf(value));
+    }
+    due("of a new object", new Routetable().digest(), d.longValue());
+  }
+
   private static void digest() {
     about("Promise 43");
     Routetable x = new Routetable();
@@ -938,6 +962,10 @@ public final class PromiseTest extends Checks {
     flap(y, 2, 0, 4, 1, 3);
     due("the chain", y.digest(), checksum(y));
     due("the sample", sample().digest(), checksum(sample()));
+    Routetable z = new Routetable();
+    z.offer(0, TEN, 8, 0, 3, 0);
+    z.offer(0, -1, 24, 0, 2, 0);
+    due("without a prefix of the length 0", z.digest(), checksum(z));
     due("asking changes nothing", y.digest(), checksum(y));
   }
 }

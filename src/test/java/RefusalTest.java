@@ -31,6 +31,8 @@ public final class RefusalTest extends Checks {
   private static int rows = 0;
 
   public static void main(String[] args) throws Exception {
+    says("A method that throws an exception changes nothing. If several exceptions apply, the one that is named first is "
+        + "thrown.");
     String[] promises = document().split("\n## Promise ");
     for (int i = 2; i < promises.length; i++) {
       promise(promises[i].split("\n## ")[0]);
@@ -156,6 +158,7 @@ public final class RefusalTest extends Checks {
     }
   }
 
+  /** "If several exceptions apply, the one that is named first is thrown." */
   private static void firstOfTwo(Method method, List<String> names, List<Bound> bounds) throws Exception {
     for (int first = 0; first < bounds.size(); first++) {
       for (int second = first + 1; second < bounds.size(); second++) {

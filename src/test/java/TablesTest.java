@@ -1,9 +1,10 @@
-/** The document's sentences on tables (part 2), and promises 2 to 5, 9, 11 to 14 and 16 to 23. */
+/** The document's sentences on tables (part 2), and promises 2 to 5 and 9. */
 public final class TablesTest extends Checks {
   public static void main(String[] args) {
     fourRouters();
     twelvePrefixes();
     extremesOfAnOffer();
+    fourOwners();
     aHoleIsNone();
     oneOfferOfEachOwner();
     inTheTable();
@@ -28,11 +29,6 @@ public final class TablesTest extends Checks {
     leaves();
     minutes();
     clears();
-    without();
-    refusedWithoutAnOffer();
-    tableNumbers();
-    lengthsFrom();
-    texts();
     end();
   }
 
@@ -75,6 +71,24 @@ public final class TablesTest extends Checks {
           due("cost", x.ofOffer(3, TEN, 8, owner, 1), cost);
         }
       }
+    }
+  }
+
+  private static void fourOwners() {
+    says("OWNERS are 0 to 3.");
+    Routetable x = new Routetable();
+    for (int owner = 0; owner <= 3; owner++) {
+      due("offer", x.offer(0, TEN, 8, owner, owner, owner), owner + 1);
+    }
+    for (int owner : new int[] {-1, 4, LOWEST, HIGHEST}) {
+      index(x, "offer", () -> x.offer(0, TEN, 8, owner, 1, 1));
+      index(x, "withdraw", () -> x.withdraw(0, TEN, 8, owner));
+      index(x, "leave", () -> x.leave(0, owner));
+      index(x, "ofOffer", () -> x.ofOffer(0, TEN, 8, owner, 0));
+      index(x, "penalty", () -> x.penalty(0, TEN, 8, owner));
+    }
+    for (int owner = 0; owner <= 3; owner++) {
+      due("withdraw", x.withdraw(0, TEN, 8, owner), true);
     }
   }
 
@@ -231,6 +245,12 @@ public final class TablesTest extends Checks {
     due("199", y.penalty(0, TEN, 8, 1), 199);
     due("99 is not counted", y.minute(), 0);
     due("99 becomes 0", y.penalty(0, TEN, 8, 1), 0);
+    Routetable z = new Routetable();
+    play(z, "wmmm");
+    z.offer(0, TEN, 8, 1, 0, 0);
+    due("62 in the table", z.minute() + z.penalty(0, TEN, 8, 1), 0);
+    z.withdraw(0, TEN, 8, 1);
+    due("from 0 on", z.penalty(0, TEN, 8, 1), 1000);
   }
 
   private static void damped() {
@@ -463,6 +483,9 @@ public final class TablesTest extends Checks {
     due("62 is 0", x.minute(), 1);
     due("the last one", x.minute(), 0);
     due("nothing in the tables", x.table(2, 0), 0);
+    x.offer(2, TEN, 8, 0, 1, 1);
+    due("an offer without a penalty", x.minute(), 0);
+    due("stays", x.text(2), "10.0.0.0/8>1");
   }
 
   private static void clears() {
@@ -488,113 +511,8 @@ public final class TablesTest extends Checks {
     Routetable y = new Routetable();
     play(y, "w");
     due("penalties go where there are no prefixes, too", y.clear(0) + y.penalty(0, TEN, 8, 1), 0);
-  }
-
-  private static void without() {
-    says("Returns the WAY of that ADDRESS, if the PREFIX were not in the TABLE (also if it is not).");
-    Routetable x = sample();
-    due("not in the table", x.without(0, TEN, 9, TEN), 3);
-    due("not in the table, at an empty router", x.without(1, TEN, 8, TEN), NONE);
-    due("in it", x.without(0, TEN, 8, TEN), 1);
-    due("the only one", x.without(0, TEN, 0, 0), NONE);
-    due("not one of another length", x.without(0, ip(10, 64, 0, 0), 10, ip(10, 64, 0, 0)), NONE);
-    due("a hole", x.without(0, ip(10, 64, 0, 0), 32, ip(10, 64, 0, 0)), 2);
-    due("an address outside", x.without(0, TEN, 8, TWENTY), 1);
-    due("length 0 is not all lengths", x.without(0, 0, 0, TEN), 3);
-  }
-
-  private static void refusedWithoutAnOffer() {
-    says("Returns that of the OFFER of the OWNER for the PREFIX; REFUSED, if there is none.");
-    Routetable x = new Routetable();
-    play(x, "ww");
-    for (int what = 0; what <= 2; what++) {
-      due("not in the table", x.ofOffer(0, TWENTY, 8, 1, what), REFUSED);
-      due("but a penalty", x.ofOffer(0, TEN, 8, 1, what), REFUSED);
-    }
-    x.offer(0, TEN, 8, 2, NONE, 0);
-    due("of another owner", x.ofOffer(0, TEN, 8, 1, 0), REFUSED);
-    due("a hole", x.ofOffer(0, TEN, 8, 2, 0), NONE);
-    due("for nothing", x.ofOffer(0, TEN, 8, 2, 1), 0);
-    due("hits of a prefix that left", x.hits(0, TEN, 9), REFUSED);
-  }
-
-  private static void tableNumbers() {
-    says("0 how many PREFIXES are in the TABLE, 1 how many of these are LIVE, 2 how many OFFERS there are, 3 of how many "
-        + "LENGTHS there are LIVE PREFIXES, 4 all HITS together, 5 how many PENALTIES are above 0");
-    Routetable x = new Routetable();
-    for (int i = 0; i < 12; i++) {
-      for (int owner = 0; owner < 4; owner++) {
-        x.offer(0, ip(i, 0, 0, 0), i < 11 ? 8 + i : 32, owner, 1, 1);
-      }
-    }
-    int[] full = {12, 12, 48, 12, 0, 0};
-    for (int what = 0; what <= 5; what++) {
-      due("full, " + what, x.table(0, what), full[what]);
-    }
-    x.send(0, 0, 1);
-    x.send(0, 1, 1);
-    x.send(0, ip(11, 0, 0, 0), 1);
-    for (int owner = 0; owner < 4; owner++) {
-      flap(x, 0, 0, 8, owner, 2);
-    }
-    for (int owner = 0; owner < 4; owner++) {
-      x.offer(0, 0, 8, owner, 1, 1);
-    }
-    flap(x, 0, ip(11, 0, 0, 0), 32, 0, 1);
-    int[] damped = {12, 11, 47, 11, 1, 5};
-    for (int what = 0; what <= 5; what++) {
-      due("one damped, " + what, x.table(0, what), damped[what]);
-    }
-    Routetable y = new Routetable();
-    y.offer(0, 0, 0, 0, 1, 1);
-    due("length 0 is a length", y.table(0, 3), 1);
-    y.offer(0, -1, 32, 0, 1, 1);
-    y.offer(0, 0, 32, 0, 1, 1);
-    due("two of length 32", y.table(0, 3), 2);
-  }
-
-  private static void lengthsFrom() {
-    says("Returns the nearest LENGTH of a LIVE PREFIX that is no more than from, if isDown, otherwise no less; NONE "
-        + "without one; REFUSED, if from is below -1, or is -1 and isDown false.");
-    Routetable x = new Routetable();
-    due("down in an empty table", x.lengthFrom(0, 32, true), NONE);
-    due("up in an empty table", x.lengthFrom(0, 0, false), NONE);
-    x.offer(0, TEN, 8, 0, 1, 1);
-    x.offer(0, TEN, 24, 0, 1, 1);
-    int[] downFrom = {-1, 0, 7, 8, 9, 23, 24, 25, 32};
-    int[] downWant = {NONE, NONE, NONE, 8, 8, 8, 24, 24, 24};
-    int[] upWant = {REFUSED, 8, 8, 8, 24, 24, 24, NONE, NONE};
-    for (int i = 0; i < downFrom.length; i++) {
-      due("down from " + downFrom[i], x.lengthFrom(0, downFrom[i], true), downWant[i]);
-      due("up from " + downFrom[i], x.lengthFrom(0, downFrom[i], false), upWant[i]);
-    }
-    for (int from : new int[] {-2, -9, LOWEST}) {
-      due("down from " + from, x.lengthFrom(0, from, true), REFUSED);
-      due("up from " + from, x.lengthFrom(0, from, false), REFUSED);
-    }
-    x.offer(0, 0, 0, 0, 1, 1);
-    x.offer(0, 0, 32, 0, 1, 1);
-    due("0 from above", x.lengthFrom(0, 7, true), 0);
-    due("0 from 0", x.lengthFrom(0, 0, true) + x.lengthFrom(0, 0, false), 0);
-    due("32 from below", x.lengthFrom(0, 25, false), 32);
-    due("32 from 32", x.lengthFrom(0, 32, true) + x.lengthFrom(0, 32, false), 64);
-    due("-1 is below 0", x.lengthFrom(0, -1, true), NONE);
-    due("refused all the same", x.lengthFrom(0, -1, false), REFUSED);
-  }
-
-  private static void texts() {
-    says("(\"0.0.0.0/0>1 10.0.0.0/8>-1\"; \"\" without any).");
-    Routetable x = new Routetable();
-    due("without any", x.text(0), "");
-    x.offer(0, TEN, 8, 0, NONE, 0);
-    due("one, no blank", x.text(0), "10.0.0.0/8>-1");
-    x.offer(0, 0, 0, 0, 1, 0);
-    due("two, one blank", x.text(0), "0.0.0.0/0>1 10.0.0.0/8>-1");
-    x.leave(0, 0);
-    due("without any", x.text(0), "");
-    x.offer(0, TEN, 8, 0, 1, 0);
-    x.withdraw(0, TEN, 8, 0);
-    x.offer(0, TEN, 8, 0, 1, 0);
-    due("without a live one", x.text(0), "");
+    play(y, "ww");
+    y.offer(0, TEN, 8, 1, 0, 0);
+    due("a damped one is one", y.clear(0), 1);
   }
 }
