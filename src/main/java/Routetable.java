@@ -557,9 +557,28 @@ public final class Routetable {
     return numberOf(address) >> others << others;
   }
 
+  /** Puts a number from -999 to 999. A digest puts some thousand: digit by digit none needs an object on its way. */
+  private void putNumber(int number) {
+    if (number < 0) {
+      signs.append('-');
+    }
+    int size = number < 0 ? -number : number;
+    if (size >= 100) {
+      putDigit(size / 100);
+    }
+    if (size >= 10) {
+      putDigit(size / 10 % 10);
+    }
+    putDigit(size % 10);
+  }
+
+  private void putDigit(int digit) {
+    signs.append((char) ('0' + digit));
+  }
+
   private void putAddress(long number) {
     for (int shift = 24; shift >= 0; shift -= 8) {
-      signs.append((int) (number >> shift & 255));
+      putNumber((int) (number >> shift & 255));
       if (shift > 0) {
         signs.append('.');
       }
@@ -569,7 +588,7 @@ public final class Routetable {
   private void putPrefix(long first, int bits) {
     putAddress(first);
     signs.append('/');
-    signs.append(bits);
+    putNumber(bits);
   }
 
   private void putBlankAfter(int place) {
@@ -584,7 +603,7 @@ public final class Routetable {
       putBlankAfter(i);
       putPrefix(table.startOf(i), table.bitsOf(i));
       signs.append('>');
-      signs.append(table.wayOf(i));
+      putNumber(table.wayOf(i));
     }
   }
 
@@ -594,7 +613,7 @@ public final class Routetable {
       putBlankAfter(i);
       putAddress(ranges.beginOf(i));
       signs.append('>');
-      signs.append(ranges.wayOf(i));
+      putNumber(ranges.wayOf(i));
     }
   }
 
@@ -604,7 +623,7 @@ public final class Routetable {
       if (i > 0) {
         signs.append('>');
       }
-      signs.append(net.trailAt(i));
+      putNumber(net.trailAt(i));
     }
     if (fate == ARRIVES) {
       signs.append(">out");

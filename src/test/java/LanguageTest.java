@@ -135,6 +135,11 @@ public final class LanguageTest {
     while (onSigns.find()) {
       check("rule 4: " + onSigns.group(), Set.of("append", "setLength", "length", "toString").contains(onSigns.group(1)));
     }
+    Matcher put = Pattern.compile("\\bsigns\\.append\\(([^;]*)\\);").matcher(source);
+    while (put.find()) {
+      check("rule 12: a number is put by its digits, not by " + put.group(),
+          put.group(1).matches("'.'|\"[^\"]*\"|\\(char\\) .*"));
+    }
     Matcher onEntries = Pattern.compile("\\bentries\\.(\\w+)").matcher(source);
     while (onEntries.find()) {
       check("rule 4: " + onEntries.group(),
